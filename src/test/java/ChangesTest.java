@@ -63,21 +63,20 @@ public final class ChangesTest {
         });
         Due.test("2: place not in 0 to 4095: BAD_PLACE; nothing changes then", () -> {
             for (int size : new int[] {0, 1, 39}) {
-                Run run = Run.withSome(size);
-                run.unchangedBy(same -> {
-                    for (int bad : Run.notPlaces()) {
-                        same.add(bad, 1).is(Run.BAD_PLACE);
-                    }
-                });
-                run.add(4095, 1).is(size);
+                for (int bad : Run.notPlaces()) {
+                    Run run = Run.withSome(size);
+                    run.unchangedBy(same -> same.add(bad, 1)).is(Run.BAD_PLACE);
+                    run.add(4095, 1).is(size);
+                }
             }
         });
-        Due.test("2: Tests in this order: BAD_PLACE ahead of FULL", () ->
-            Run.withForty().unchangedBy(same -> {
-                for (int bad : Run.notPlaces()) {
-                    same.add(bad, 1).is(Run.BAD_PLACE);
-                }
-            }));
+        Due.test("2: Tests in this order: BAD_PLACE ahead of FULL; nothing changes then", () -> {
+            for (int bad : Run.notPlaces()) {
+                Run run = Run.withForty();
+                run.unchangedBy(same -> same.add(bad, 1)).is(Run.BAD_PLACE);
+                run.add(4095, 1).is(Run.FULL);
+            }
+        });
         Due.test("2: nothing changes then: a refused label is nowhere", () -> {
             Run run = new Run();
             run.add(-1, 77).is(Run.BAD_PLACE);
@@ -96,13 +95,10 @@ public final class ChangesTest {
             run.count().is(40);
         });
         Due.test("2: there are forty: FULL; nothing changes then", () -> {
-            Run run = Run.withForty();
-            run.unchangedBy(same -> {
-                same.add(0, 1).is(Run.FULL);
-                same.add(4095, Run.MIN).is(Run.FULL);
-                same.add(3900, Run.MAX).is(Run.FULL);
-            });
-            run.countBox(4095, 4095).is(0);
+            for (int place : new int[] {0, 1, 2080, 4095}) {
+                Run run = Run.withForty();
+                run.unchangedBy(same -> same.add(place, 7)).is(Run.FULL);
+            }
         });
         Due.test("2: there are forty: FULL: no longer when one is gone", () -> {
             for (int gone : new int[] {0, 1, 20, 38, 39}) {
@@ -172,29 +168,23 @@ public final class ChangesTest {
     private static void removeNoPoint() {
         Due.test("3: There is no such point: NO_POINT: not a number from 0 to 39", () -> {
             for (int size : new int[] {0, 1, 40}) {
-                Run.withSome(size).unchangedBy(same -> {
-                    for (int bad : Run.notNumbers()) {
-                        same.remove(bad).is(Run.NO_POINT);
-                    }
-                });
+                for (int bad : Run.notNumbers()) {
+                    Run.withSome(size).unchangedBy(same -> same.remove(bad)).is(Run.NO_POINT);
+                }
             }
         });
         Due.test("3: There is no such point: NO_POINT: a number that no point has", () -> {
-            Run run = Run.withSome(2);
-            run.unchangedBy(same -> {
-                for (int number = 2; number < 40; number++) {
-                    same.remove(number).is(Run.NO_POINT);
+            for (int size : new int[] {0, 1, 2, 39}) {
+                for (int number = size; number < 40; number++) {
+                    int none = number;
+                    Run.withSome(size).unchangedBy(same -> same.remove(none)).is(Run.NO_POINT);
                 }
-            });
-            new Run().remove(0).is(Run.NO_POINT);
+            }
         });
         Due.test("3: There is no such point: NO_POINT: one that is gone", () -> {
             Run run = Run.withSome(3);
             run.remove(1).is(2);
-            run.unchangedBy(same -> {
-                same.remove(1).is(Run.NO_POINT);
-                same.remove(1).is(Run.NO_POINT);
-            });
+            run.unchangedBy(same -> same.remove(1)).is(Run.NO_POINT);
             run.clearBox(200, 200).is(1);
             run.remove(2).is(Run.NO_POINT);
             run.remove(0).is(0);
@@ -239,47 +229,37 @@ public final class ChangesTest {
     private static void moveRefused() {
         Due.test("4: there is no such point: NO_POINT; nothing changes then", () -> {
             for (int size : new int[] {0, 1, 40}) {
-                Run.withSome(size).unchangedBy(same -> {
-                    for (int bad : Run.notNumbers()) {
-                        same.move(bad, 0).is(Run.NO_POINT);
-                        same.move(bad, 4095).is(Run.NO_POINT);
-                    }
-                });
+                for (int bad : Run.notNumbers()) {
+                    Run.withSome(size).unchangedBy(same -> same.move(bad, 0)).is(Run.NO_POINT);
+                    Run.withSome(size).unchangedBy(same -> same.move(bad, 4095)).is(Run.NO_POINT);
+                }
             }
         });
         Due.test("4: there is no such point: NO_POINT: a number that no point has", () -> {
-            Run run = Run.withSome(3);
-            run.remove(1).is(2);
-            run.unchangedBy(same -> {
-                same.move(1, 7).is(Run.NO_POINT);
-                same.move(3, 7).is(Run.NO_POINT);
-                same.move(39, 7).is(Run.NO_POINT);
-            });
-            run.countBox(7, 7).is(0);
+            for (int number : new int[] {1, 3, 39}) {
+                Run run = Run.withSome(3);
+                run.remove(1).is(2);
+                run.unchangedBy(same -> same.move(number, 7)).is(Run.NO_POINT);
+                run.countBox(7, 7).is(0);
+            }
         });
         Due.test("4: place not in 0 to 4095: BAD_PLACE; nothing changes then", () -> {
             for (int size : new int[] {1, 40}) {
-                Run.withSome(size).unchangedBy(same -> {
-                    for (int bad : Run.notPlaces()) {
-                        same.move(0, bad).is(Run.BAD_PLACE);
-                        same.move(size - 1, bad).is(Run.BAD_PLACE);
-                    }
-                });
+                for (int bad : Run.notPlaces()) {
+                    Run.withSome(size).unchangedBy(same -> same.move(0, bad)).is(Run.BAD_PLACE);
+                    Run.withSome(size).unchangedBy(same -> same.move(size - 1, bad)).is(Run.BAD_PLACE);
+                }
             }
         });
         Due.test("4: Tests in this order: NO_POINT ahead of BAD_PLACE", () -> {
-            Run run = Run.withSome(2);
-            run.remove(0).is(1);
-            run.unchangedBy(same -> {
-                for (int bad : Run.notPlaces()) {
-                    same.move(0, bad).is(Run.NO_POINT);
-                    same.move(2, bad).is(Run.NO_POINT);
-                    same.move(39, bad).is(Run.NO_POINT);
-                    same.move(40, bad).is(Run.NO_POINT);
-                    same.move(-1, bad).is(Run.NO_POINT);
+            for (int bad : Run.notPlaces()) {
+                for (int number : new int[] {0, 2, 39, 40, -1, Run.MIN, Run.MAX}) {
+                    Run run = Run.withSome(2);
+                    run.remove(0).is(1);
+                    run.unchangedBy(same -> same.move(number, bad)).is(Run.NO_POINT);
                 }
-            });
-            new Run().move(0, -1).is(Run.NO_POINT);
+                new Run().move(0, bad).is(Run.NO_POINT);
+            }
         });
     }
 
@@ -292,12 +272,11 @@ public final class ChangesTest {
             run.placeOf(0).is(4095);
             run.move(0, 0).is(4095);
         });
-        Due.test("4: answers its old place: to where it stands", () ->
-            Run.withPoints(0, 4095, 70).unchangedBy(same -> {
-                same.move(0, 0).is(0);
-                same.move(1, 4095).is(4095);
-                same.move(2, 70).is(70);
-            }));
+        Due.test("4: answers its old place: to where it stands", () -> {
+            for (int place : new int[] {0, 4, 70, 4095}) {
+                Run.withPoints(4, place, 4).unchangedBy(same -> same.move(1, place)).is(place);
+            }
+        });
         Due.test("4: answers its old place: not the refused one before", () -> {
             Run run = Run.withPoints(33);
             run.move(0, 4096).is(Run.BAD_PLACE);
@@ -325,32 +304,27 @@ public final class ChangesTest {
     private static void clearBoxRefused() {
         Due.test("5: a not in 0 to 4095: BAD_PLACE, nothing changes", () -> {
             for (int size : new int[] {0, 1, 40}) {
-                Run.withSome(size).unchangedBy(same -> {
-                    for (int bad : Run.notPlaces()) {
-                        same.clearBox(bad, 0).is(Run.BAD_PLACE);
-                        same.clearBox(bad, 4095).is(Run.BAD_PLACE);
-                    }
-                });
+                for (int bad : Run.notPlaces()) {
+                    Run.withSome(size).unchangedBy(same -> same.clearBox(bad, 0)).is(Run.BAD_PLACE);
+                    Run.withSome(size).unchangedBy(same -> same.clearBox(bad, 4095)).is(Run.BAD_PLACE);
+                }
             }
         });
         Due.test("5: b not in 0 to 4095: BAD_PLACE, nothing changes", () -> {
             for (int size : new int[] {0, 1, 40}) {
-                Run.withSome(size).unchangedBy(same -> {
-                    for (int bad : Run.notPlaces()) {
-                        same.clearBox(0, bad).is(Run.BAD_PLACE);
-                        same.clearBox(4095, bad).is(Run.BAD_PLACE);
-                    }
-                });
+                for (int bad : Run.notPlaces()) {
+                    Run.withSome(size).unchangedBy(same -> same.clearBox(0, bad)).is(Run.BAD_PLACE);
+                    Run.withSome(size).unchangedBy(same -> same.clearBox(4095, bad)).is(Run.BAD_PLACE);
+                }
             }
         });
-        Due.test("5: a and b not in 0 to 4095: BAD_PLACE, nothing changes", () ->
-            Run.withForty().unchangedBy(same -> {
-                for (int bad : Run.notPlaces()) {
-                    same.clearBox(bad, bad).is(Run.BAD_PLACE);
-                    same.clearBox(-1, bad).is(Run.BAD_PLACE);
-                    same.clearBox(bad, 4096).is(Run.BAD_PLACE);
-                }
-            }));
+        Due.test("5: a and b not in 0 to 4095: BAD_PLACE, nothing changes", () -> {
+            for (int bad : Run.notPlaces()) {
+                Run.withForty().unchangedBy(same -> same.clearBox(bad, bad)).is(Run.BAD_PLACE);
+                Run.withForty().unchangedBy(same -> same.clearBox(-1, bad)).is(Run.BAD_PLACE);
+                Run.withForty().unchangedBy(same -> same.clearBox(bad, 4096)).is(Run.BAD_PLACE);
+            }
+        });
         Due.test("5: a or b not in 0 to 4095: BAD_PLACE: the last that are allowed", () -> {
             Run.withPoints(0, 4095).clearBox(0, 4095).is(2);
             Run.withPoints(0, 4095).clearBox(4095, 0).is(2);
@@ -362,8 +336,8 @@ public final class ChangesTest {
     private static void clearBoxHowMany() {
         Due.test("5: answers how many: none of none, of one and of forty", () -> {
             new Run().clearBox(0, 4095).is(0);
-            Run.withPoints(10).unchangedBy(same -> same.clearBox(11, 4095).is(0));
-            Run.withForty().unchangedBy(same -> same.clearBox(1, 1).is(0));
+            Run.withPoints(10).unchangedBy(same -> same.clearBox(11, 4095)).is(0);
+            Run.withForty().unchangedBy(same -> same.clearBox(1, 1)).is(0);
         });
         Due.test("5: answers how many: one, all but one, and forty", () -> {
             Run one = Run.withForty();

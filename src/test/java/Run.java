@@ -1,5 +1,5 @@
 import java.util.Arrays;
-import java.util.function.Consumer;
+import java.util.function.Function;
 
 /** A run of calls on one new object: each answer is told with its call, and 512 is the end. */
 final class Run {
@@ -134,26 +134,28 @@ final class Run {
         return CALLS - calls;
     }
 
-    /** These calls leave all as it was: two looks at the state take 172 of the 512. */
-    void unchangedBy(Consumer<Run> changeless) {
+    /** One call, as two could undo each other; with both looks at the state 253 of the 512. */
+    Answer unchangedBy(Function<Run, Answer> call) {
         String before = state();
-        changeless.accept(this);
-        Due.same("the state after calls that change nothing", state(), before);
+        Answer answer = call.apply(this);
+        Due.same("the state after " + answer.call() + " which changes nothing,", state(), before);
+        return answer;
     }
 
-    /** All that can be asked of the points, in 86 calls. */
+    /** All that can be asked of the points, in 126 calls. */
     private String state() {
-        int[] seen = new int[86];
+        int[] seen = new int[126];
         for (int point = 0; point < 40; point++) {
             seen[point] = placeOf(point).got();
             seen[40 + point] = labelOf(point).got();
+            seen[80 + point] = nearest(0, point).got();
         }
-        seen[80] = count().got();
-        seen[81] = countBox(0, 4095).got();
-        seen[82] = sumBox(0, 4095).got();
-        seen[83] = firstIn(0, 4095).got();
-        seen[84] = countNear(0, MAX).got();
-        seen[85] = closest().got();
+        seen[120] = count().got();
+        seen[121] = countBox(0, 4095).got();
+        seen[122] = sumBox(0, 4095).got();
+        seen[123] = firstIn(0, 4095).got();
+        seen[124] = countNear(0, MAX).got();
+        seen[125] = closest().got();
         return Arrays.toString(seen);
     }
 }

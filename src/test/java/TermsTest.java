@@ -1,4 +1,4 @@
-import java.util.function.Consumer;
+import java.util.function.Function;
 
 /** The boundary cases that stand under "What it is" and "Terms", a test for each sentence. */
 public final class TermsTest {
@@ -263,67 +263,42 @@ public final class TermsTest {
 
     /** "The calls below change nothing", for each of the nine. */
     private static void callsThatChangeNothing() {
-        changesNothing("countBox", run -> {
-            run.countBox(0, 4095);
-            run.countBox(100, 100);
-            run.countBox(-1, 0).is(Run.BAD_PLACE);
-            run.countBox(0, 4096).is(Run.BAD_PLACE);
-        });
-        changesNothing("sumBox", run -> {
-            run.sumBox(0, 4095);
-            run.sumBox(100, 100);
-            run.sumBox(-1, 0).is(Run.BAD_PLACE);
-            run.sumBox(0, 4096).is(Run.BAD_PLACE);
-        });
-        changesNothing("countNear", run -> {
-            run.countNear(100, 0);
-            run.countNear(0, Run.MAX);
-            run.countNear(0, -1).is(0);
-            run.countNear(4096, 1).is(Run.BAD_PLACE);
-        });
-        changesNothing("nearest", run -> {
-            run.nearest(4095, 0);
-            run.nearest(0, 39);
-            run.nearest(0, 40).is(Run.NO_POINT);
-            run.nearest(0, -1).is(Run.BAD_RANK);
-            run.nearest(-1, 0).is(Run.BAD_PLACE);
-        });
-        changesNothing("firstIn", run -> {
-            run.firstIn(0, 4095);
-            run.firstIn(100, 100);
-            run.firstIn(1, 1).is(Run.NO_POINT);
-            run.firstIn(4096, 0).is(Run.BAD_PLACE);
-        });
-        changesNothing("placeOf", run -> {
-            run.placeOf(0);
-            run.placeOf(39);
-            run.placeOf(40).is(Run.NO_POINT);
-            run.placeOf(-1).is(Run.NO_POINT);
-        });
-        changesNothing("labelOf", run -> {
-            run.labelOf(0);
-            run.labelOf(39);
-            run.labelOf(40).is(0);
-            run.labelOf(-1).is(0);
-        });
-        changesNothing("closest", Run::closest);
-        changesNothing("count", Run::count);
+        changesNothing("countBox", run -> run.countBox(0, 4095), run -> run.countBox(100, 100),
+            run -> run.countBox(-1, 0), run -> run.countBox(0, 4096));
+        changesNothing("sumBox", run -> run.sumBox(0, 4095), run -> run.sumBox(100, 100),
+            run -> run.sumBox(-1, 0), run -> run.sumBox(0, 4096));
+        changesNothing("countNear", run -> run.countNear(100, 0), run -> run.countNear(4095, Run.MAX),
+            run -> run.countNear(0, -1), run -> run.countNear(-1, 1), run -> run.countNear(4096, 1));
+        changesNothing("nearest", run -> run.nearest(4095, 0), run -> run.nearest(4095, 39),
+            run -> run.nearest(0, 40), run -> run.nearest(0, -1), run -> run.nearest(-1, 0),
+            run -> run.nearest(4096, 0));
+        changesNothing("firstIn", run -> run.firstIn(0, 4095), run -> run.firstIn(100, 100),
+            run -> run.firstIn(1, 1), run -> run.firstIn(-1, 0), run -> run.firstIn(0, 4096));
+        changesNothing("placeOf", run -> run.placeOf(0), run -> run.placeOf(39),
+            run -> run.placeOf(40), run -> run.placeOf(-1));
+        changesNothing("labelOf", run -> run.labelOf(0), run -> run.labelOf(39),
+            run -> run.labelOf(40), run -> run.labelOf(-1));
+        changesNothing("closest", run -> run.closest());
+        changesNothing("count", run -> run.count());
     }
 
     /** With no point, one, two and forty, and with gaps among the numbers. */
-    private static void changesNothing(String name, Consumer<Run> calls) {
+    @SafeVarargs
+    private static void changesNothing(String name, Function<Run, Run.Answer>... calls) {
         Due.test("The calls below change nothing: " + name, () -> {
-            for (int size : new int[] {0, 1, 2, 40}) {
-                Run run = Run.withSome(size);
-                run.unchangedBy(calls);
-                run.add(5, 5).is(size == 40 ? Run.FULL : size);
+            for (Function<Run, Run.Answer> call : calls) {
+                for (int size : new int[] {0, 1, 2, 40}) {
+                    Run run = Run.withSome(size);
+                    run.unchangedBy(call);
+                    run.add(5, 5).is(size == 40 ? Run.FULL : size);
+                }
+                Run gaps = Run.withSome(10);
+                gaps.remove(3).is(9);
+                gaps.remove(0).is(8);
+                gaps.unchangedBy(call);
+                gaps.add(5, 5).is(0);
+                gaps.add(5, 5).is(3);
             }
-            Run gaps = Run.withSome(10);
-            gaps.remove(3).is(9);
-            gaps.remove(0).is(8);
-            gaps.unchangedBy(calls);
-            gaps.add(5, 5).is(0);
-            gaps.add(5, 5).is(3);
         });
     }
 
